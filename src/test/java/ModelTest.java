@@ -16,7 +16,7 @@ public final class ModelTest {
         return low + (int) ((seed >>> 33) % (high - low + 1));
     }
 
-    private static int[] EXTREMES = {Integer.MIN_VALUE, Integer.MAX_VALUE, -5, 17, 36, 100};
+    private static final int[] EXTREMES = {Integer.MIN_VALUE, Integer.MAX_VALUE, -5, 17, 36, 100};
 
     private static int mostly(int low, int high) {
         return pick(0, 39) == 0 ? EXTREMES[pick(0, EXTREMES.length - 1)] : pick(low, high);

@@ -140,6 +140,33 @@ public final class Promise04Test {
         x.addNode(1, -1, 0, 0);
         x.addNode(2, 2, 2, 0);
         all("2 against 3, later", x, 3, (a, b, c) -> false);
+        ShapeInference y = new ShapeInference(6);
+        y.addNode(1, 6, 6, 0);
+        y.addNode(6, 0, -1, 0);
+        all("36 in one dim", y, 6, (a, b, c) -> false);
+    }
+
+    private static void onlyOnes() {
+        for (int d = 2; d <= 6; d++) {
+            ShapeInference x = new ShapeInference(d);
+            x.addNode(1, -1, -2, 0);
+            x.addNode(6, 0, 0, 0);
+            x.addNode(1, -3, 0, 0);
+            x.addNode(6, 2, 1, 1);
+            all("ones alone", x, d, (a, b, c) -> a == 1 && b == 1 && c == 1);
+        }
+    }
+
+    private static void onlyTheLargest() {
+        for (int d = 2; d <= 6; d++) {
+            ShapeInference x = new ShapeInference(d);
+            x.addNode(1, d, d, 0);
+            x.addNode(6, 0, -1, -2);
+            x.addNode(6, 1, -2, -3);
+            int largest = d;
+            all("the largest alone", x, d,
+                    (a, b, c) -> a == largest && b == largest && c == largest);
+        }
     }
 
     private static void noInfluence() {
@@ -168,6 +195,8 @@ public final class Promise04Test {
         reshapes();
         derivedShapes();
         nothingFits();
+        onlyOnes();
+        onlyTheLargest();
         noInfluence();
         CHECK.end();
     }

@@ -80,6 +80,29 @@ public final class Promise06Test {
         equals(x, false, false, false);
     }
 
+    private static void onlyOnes() {
+        ShapeInference x = new ShapeInference(6);
+        x.addNode(1, -1, -2, 0);
+        x.addNode(6, 0, 0, 0);
+        values(x, 1, 1, 0);
+        equals(x, true, false, false);
+        x.addNode(1, -3, 0, 0);
+        x.addNode(6, 2, 0, 0);
+        values(x, 1, 1, 1);
+        equals(x, true, true, true);
+    }
+
+    private static void onlyTheLargest() {
+        ShapeInference x = new ShapeInference(6);
+        x.addNode(1, 6, 6, 0);
+        x.addNode(6, 0, -1, -2);
+        values(x, 6, 6, 0);
+        equals(x, true, false, false);
+        x.addNode(6, 0, -3, -2);
+        values(x, 6, 6, 6);
+        equals(x, true, true, true);
+    }
+
     private static void nothingFits() {
         ShapeInference x = new ShapeInference(3);
         x.addNode(1, -1, 0, 0);
@@ -96,6 +119,8 @@ public final class Promise06Test {
         chain();
         firstAndThird();
         valueOne();
+        onlyOnes();
+        onlyTheLargest();
         nothingFits();
         CHECK.end();
     }

@@ -87,7 +87,14 @@ public final class Promise09Test {
         x.addNode(1, 1, 2, 0);
         x.addNode(4, 3, 4, 0);
         x.addNode(4, 4, 3, 0);
+        x.addNode(1, 3, 1, 0);
+        data(x, 7, 2, 3, 4);
+        x.addNode(1, 1, 2, 0);
+        data(x, 8, 10, 20);
+        x.addNode(4, 7, 8, 0);
         runs(x);
+        CHECK.shape(x, 9, 3, 2);
+        CHECK.elements(x, 9, 20, 40, 30, 60, 40, 80);
         CHECK.shape(x, 2, 2, 4);
         CHECK.elements(x, 2, 38, 44, 50, 56, 83, 98, 113, 128);
         CHECK.shape(x, 5, 2, 2);
@@ -175,6 +182,57 @@ public final class Promise09Test {
         CHECK.elements(x, 9, 1, 2, 3);
         CHECK.shape(x, 10, 1);
         CHECK.elements(x, 10, 6);
+    }
+
+    /** What a larger run left behind is not read by a smaller one. */
+    private static void smallerAfterLarger() {
+        ShapeInference x = new ShapeInference(3);
+        x.addNode(1, -1, -2, 0);
+        x.addNode(7, 0, 0, 0);
+        x.addNode(7, 0, 1, 0);
+        x.addNode(5, 0, 0, 0);
+        x.addNode(4, 0, 3, 0);
+        x.addNode(2, 0, 1, 0);
+        x.bind(0, 3);
+        x.bind(1, 3);
+        runs(x);
+        CHECK.elements(x, 1, 12, 15, 18);
+        CHECK.elements(x, 2, 6, 15, 24);
+        CHECK.elements(x, 4, 14, 32, 50, 32, 77, 122, 50, 122, 194);
+        x.bind(0, 2);
+        x.bind(1, 2);
+        runs(x);
+        CHECK.elements(x, 1, 4, 6);
+        CHECK.elements(x, 2, 3, 7);
+        CHECK.elements(x, 3, 1, 3, 2, 4);
+        CHECK.elements(x, 4, 5, 11, 11, 25);
+        CHECK.elements(x, 5, 5, 8, 7, 10);
+    }
+
+    /** The last node of a full program at the greatest size, for each kind. */
+    private static void fullLastNode() {
+        for (int kind = 1; kind <= 7; kind++) {
+            ShapeInference x = new ShapeInference(6);
+            for (int i = 0; i < 15; i++) {
+                x.addNode(1, 6, 6, 0);
+            }
+            int y = kind == 1 || kind == 6 ? 6 : kind == 7 ? 1 : 13;
+            int added = x.addNode(kind, kind == 1 ? 6 : 14, y, 6);
+            CHECK.due("last node of kind " + kind, added, 15);
+            runs(x);
+            int[] corner = {36, 72, 36 * 36, 0, 36, 36, 0};
+            for (int t = 0; t < 6; t++) {
+                corner[3] += (31 + t) * (6 * t + 6);
+            }
+            if (kind == 7) {
+                CHECK.shape(x, 15, 6);
+                CHECK.elements(x, 15, 21, 57, 93, 129, 165, 201);
+            } else {
+                CHECK.shape(x, 15, 6, 6);
+                CHECK.due("corner of kind " + kind, x.valueAt(15, 35), corner[kind - 1]);
+            }
+            CHECK.due("outside of kind " + kind, x.valueAt(15, 36), 0);
+        }
     }
 
     private static void wrapping() {
@@ -274,6 +332,8 @@ public final class Promise09Test {
         transposes();
         reshapes();
         sums();
+        smallerAfterLarger();
+        fullLastNode();
         wrapping();
         everythingAtTheLargest();
         firstTrapCounts();
