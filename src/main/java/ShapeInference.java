@@ -153,11 +153,12 @@ public final class ShapeInference {
     public boolean run() {
         int n = boundInstantiation();
         boolean trapped = traps[n] != NO_TRAP;
-        state = trapped ? RUN_TRAP : RUN_OK;
-        computed = trapped ? traps[n] : count;
-        for (int node = 0; node < computed; node++) {
+        int end = trapped ? traps[n] : count;
+        for (int node = 0; node < end; node++) {
             compute(n * STRIDE, node);
         }
+        state = trapped ? RUN_TRAP : RUN_OK;
+        computed = end;
         return !trapped;
     }
 
