@@ -1,6 +1,8 @@
 /** What every test of the project uses: it counts the answers that are not as due. */
 final class Check {
     private final String name;
+    private String sentence = "";
+    private int askedForSentence = 0;
     private int asked = 0;
     private int wrong = 0;
 
@@ -8,12 +10,29 @@ final class Check {
         this.name = name;
     }
 
+    /** What is asked from here on is asked for this sentence of the document. */
+    void sentence(String words) {
+        endSentence();
+        sentence = words;
+        askedForSentence = 0;
+    }
+
+    private void endSentence() {
+        if (!sentence.isEmpty() && askedForSentence == 0) {
+            wrong++;
+            System.out.println(name + ": nothing is asked for \"" + sentence + "\"");
+        }
+    }
+
     void due(String call, long got, long want) {
         asked++;
+        askedForSentence++;
         if (got != want) {
             wrong++;
             if (wrong <= 50) {
-                System.out.println(name + ": " + call + " answered " + got + ", due is " + want);
+                String of = sentence.isEmpty() ? "" : "\"" + sentence + "\": ";
+                System.out.println(name + ": " + of + call + " answered " + got
+                        + ", due is " + want);
             }
         }
     }
@@ -51,6 +70,7 @@ final class Check {
     }
 
     void end() {
+        endSentence();
         System.out.println(name + ": " + asked + " answers, " + wrong + " not as due");
         if (wrong != 0 || asked == 0) {
             System.exit(1);
