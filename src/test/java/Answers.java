@@ -23,12 +23,6 @@ final class Answers {
     }
 
     private void ofProgram(ShapeInference x) {
-        for (int node = -1; node <= 16; node++) {
-            note("rankOf", node, 0, 0, x.rankOf(node));
-            for (int k = -1; k <= 2; k++) {
-                note("dimOf", node, k, 0, x.dimOf(node, k));
-            }
-        }
         note("accepted", 0, 0, 0, x.accepted());
         for (int a = 0; a <= 7; a++) {
             for (int b = 0; b <= 7; b++) {
@@ -37,12 +31,20 @@ final class Answers {
                 }
             }
         }
+        for (int node = -1; node <= 16; node++) {
+            note("rankOf", node, 0, 0, x.rankOf(node));
+            for (int k = -1; k <= 2; k++) {
+                note("dimOf", node, k, 0, x.dimOf(node, k));
+            }
+        }
     }
 
     private void ofSymbols(ShapeInference x) {
         for (int s = -1; s <= 3; s++) {
-            note("symbolValue", s, 0, 0, x.symbolValue(s));
             note("boundValue", s, 0, 0, x.boundValue(s));
+        }
+        for (int s = -1; s <= 3; s++) {
+            note("symbolValue", s, 0, 0, x.symbolValue(s));
             for (int t = -1; t <= 3; t++) {
                 note("symbolsEqual", s, t, 0, x.symbolsEqual(s, t));
             }
@@ -65,17 +67,24 @@ final class Answers {
     /** What can be asked without a change. */
     static Answers now(ShapeInference x) {
         Answers all = new Answers();
-        all.ofProgram(x);
-        all.ofSymbols(x);
         all.ofRun(x);
+        all.ofSymbols(x);
+        all.ofProgram(x);
         return all;
     }
 
     /** The same without the run state and what a run computed. */
     static Answers withoutRun(ShapeInference x) {
         Answers all = new Answers();
-        all.ofProgram(x);
         all.ofSymbols(x);
+        all.ofProgram(x);
+        return all;
+    }
+
+    /** The same of the program alone. */
+    static Answers ofProgramOnly(ShapeInference x) {
+        Answers all = new Answers();
+        all.ofProgram(x);
         return all;
     }
 

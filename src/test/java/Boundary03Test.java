@@ -118,7 +118,7 @@ public final class Boundary03Test {
     private static void nothingChanges() {
         CHECK.sentence("rankOf: Nothing changes.");
         int[] asked = {Integer.MIN_VALUE, -1, 0, 1, 2, 3, 9, 15, 16, Integer.MAX_VALUE};
-        Unchanged.everywhere(CHECK, "rankOf", x -> {
+        Unchanged.byAsking(CHECK, "rankOf", x -> {
             for (int node : asked) {
                 x.rankOf(node);
             }

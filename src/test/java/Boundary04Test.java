@@ -116,8 +116,8 @@ public final class Boundary04Test {
 
     private static void nothingChanges() {
         CHECK.sentence("admissible, accepted: Neither method changes anything.");
-        Unchanged.everywhere(CHECK, "accepted", ShapeInference::accepted);
-        Unchanged.everywhere(CHECK, "admissible", x -> {
+        Unchanged.byAsking(CHECK, "accepted", ShapeInference::accepted);
+        Unchanged.byAsking(CHECK, "admissible", x -> {
             for (int v : FAR) {
                 x.admissible(v, 1, 1);
                 x.admissible(1, v, 1);

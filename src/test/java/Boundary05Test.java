@@ -192,7 +192,7 @@ public final class Boundary05Test {
     private static void nothingChanges() {
         CHECK.sentence("dimOf: Nothing changes.");
         int[] asked = {MIN, -1, 0, 1, 2, 3, 8, 9, 15, 16, MAX};
-        Unchanged.everywhere(CHECK, "dimOf", x -> {
+        Unchanged.byAsking(CHECK, "dimOf", x -> {
             for (int node : asked) {
                 for (int k : asked) {
                     x.dimOf(node, k);

@@ -155,12 +155,12 @@ public final class Boundary06Test {
     private static void nothingChanges() {
         CHECK.sentence("symbolValue, symbolsEqual: Neither method changes anything,");
         int[] asked = {MIN, -1, 0, 1, 2, 3, MAX};
-        Unchanged.everywhere(CHECK, "symbolValue", x -> {
+        Unchanged.byAsking(CHECK, "symbolValue", x -> {
             for (int s : asked) {
                 x.symbolValue(s);
             }
         });
-        Unchanged.everywhere(CHECK, "symbolsEqual", x -> {
+        Unchanged.byAsking(CHECK, "symbolsEqual", x -> {
             for (int s : asked) {
                 for (int t : asked) {
                     x.symbolsEqual(s, t);

@@ -161,7 +161,7 @@ public final class Boundary07Test {
 
     private static void nothingChanges() {
         CHECK.sentence("boundValue: This method changes nothing.");
-        Unchanged.everywhere(CHECK, "boundValue", x -> {
+        Unchanged.byAsking(CHECK, "boundValue", x -> {
             for (int s = 0; s < 3; s++) {
                 x.boundValue(s);
             }

@@ -295,22 +295,40 @@ public final class Boundary09Test {
                 x.run();
             });
         }
+        // every cell of every input, in runs that end well and in runs that trap
+        Program p = new Program(6);
+        for (int node = 0; node < 15; node++) {
+            p.input(6, 6);
+            for (int i = 0; i < 36; i++) {
+                p.x.setData(node, i, 100 * node - i);
+            }
+        }
+        p.reshape(0, 6, -3).bind(4, 5, 6);
+        for (int round = 0; round < 3; round++) {
+            CHECK.due("run()", p.x.run(), round != 1);
+            for (int i = 0; i < 15 * 36; i++) {
+                CHECK.due("valueAt(" + i / 36 + ", " + i % 36 + ")",
+                        p.x.valueAt(i / 36, i % 36), 100 * (i / 36) - i % 36);
+            }
+            CHECK.due("boundValue(0)", p.x.boundValue(0), 4);
+            CHECK.due("boundValue(1)", p.x.boundValue(1), 5);
+            CHECK.due("boundValue(2)", p.x.boundValue(2), round == 1 ? 2 : 6);
+            p.x.bind(2, round == 0 ? 2 : 6);
+        }
     }
 
     private static void states() {
         CHECK.sentence("`runState()` answers RUN_NONE, RUN_OK or RUN_TRAP.");
-        int[] states = {NONE, OK, NONE, OK, TRAP, NONE, OK, TRAP, NONE, TRAP};
         for (Start start : Start.values()) {
-            CHECK.due(start + ": runState()", start.make().runState(), states[start.ordinal()]);
+            CHECK.due(start + ": runState()", start.make().runState(), start.runState);
         }
     }
 
     private static void trapNodes() {
         CHECK.sentence("`trapNode()` answers the trap node if the run state is RUN_TRAP, and -1"
                 + " otherwise.");
-        int[] trapNodes = {-1, -1, -1, -1, 2, -1, -1, 2, -1, 3};
         for (Start start : Start.values()) {
-            CHECK.due(start + ": trapNode()", start.make().trapNode(), trapNodes[start.ordinal()]);
+            CHECK.due(start + ": trapNode()", start.make().trapNode(), start.trapNode);
         }
         // each change of the state takes the trap node away
         Program p = trapping(5);
@@ -331,8 +349,19 @@ public final class Boundary09Test {
 
     private static void askingChangesNothing() {
         CHECK.sentence("runState, trapNode: Neither changes anything.");
-        Unchanged.everywhere(CHECK, "runState", ShapeInference::runState);
-        Unchanged.everywhere(CHECK, "trapNode", ShapeInference::trapNode);
+        Unchanged.byAsking(CHECK, "runState", ShapeInference::runState);
+        Unchanged.byAsking(CHECK, "trapNode", ShapeInference::trapNode);
+        // the answers stay when they are asked again and again
+        Program ok = trapping(5).bind(2, 1, 1).run();
+        Program trap = trapping(5).bind(3, 1, 1).run();
+        for (int round = 0; round < 3; round++) {
+            state(ok.x, OK, -1);
+            CHECK.elements(ok.x, 0, 1, 2);
+            CHECK.elements(ok.x, 15, 1, 2);
+            state(trap.x, TRAP, 5);
+            CHECK.elements(trap.x, 0, 1, 2, 3);
+            CHECK.elements(trap.x, 4, 1, 2, 3);
+        }
     }
 
     public static void main(String[] args) {

@@ -75,6 +75,26 @@ public final class Boundary10Test {
         dim(x, 1, 0, 2);
         dim(x, 0, 0, 2);
         dim(x, 0, 1, 3);
+        for (Program p : trapsOfEachKind()) {
+            p.bind(2, 1, 1).run();
+            dim(p.x, 2, 0, 2);
+            dim(p.x, 3, 0, 2);
+            p.bind(3, 1, 1).run();
+            CHECK.due("trapNode()", p.x.trapNode(), 2);
+            noDims(p.x, 2);
+            noDims(p.x, 3);
+            dim(p.x, 0, 0, 3);
+        }
+    }
+
+    /** Node 2 traps if symbol 0 is 3, but not if it is 2. */
+    private static Program[] trapsOfEachKind() {
+        return new Program[] {
+            new Program(3).input(-1, -1).input(2, 2).add(0, 1).transpose(2),
+            new Program(3).input(-1, -1).input(2, 2).mul(0, 1).transpose(2),
+            new Program(3).input(-1, -1).input(2, 2).matmul(1, 0).transpose(2),
+            new Program(3).input(-1, -1).input(2, 2).reshape(0, 2, 2).transpose(2),
+        };
     }
 
     private static void dimsOfNoNode() {
@@ -160,6 +180,16 @@ public final class Boundary10Test {
         }
         CHECK.elements(x, 1, 5, 6);
         CHECK.elements(x, 0, -7, 3, 13, 23, 33, 43);
+        for (Program p : trapsOfEachKind()) {
+            p.bind(2, 1, 1).run();
+            CHECK.due("valueAt(2, 0) is there", p.x.valueAt(2, 0) > 0, true);
+            CHECK.due("valueAt(3, 3) is there", p.x.valueAt(3, 3) > 0, true);
+            p.bind(3, 1, 1).run();
+            CHECK.due("trapNode()", p.x.trapNode(), 2);
+            noElements(p.x, 2);
+            noElements(p.x, 3);
+            CHECK.elements(p.x, 1, 1, 2, 3, 4);
+        }
     }
 
     private static void elementsOfNoNode() {
@@ -238,20 +268,31 @@ public final class Boundary10Test {
     private static void nothingChanges() {
         CHECK.sentence("valueDim, valueAt: Neither method changes anything.");
         int[] asked = {MIN, -1, 0, 1, 2, 3, 9, 15, 16, 35, 36, MAX};
-        Unchanged.everywhere(CHECK, "valueDim", x -> {
+        Unchanged.byAsking(CHECK, "valueDim", x -> {
             for (int node : asked) {
                 for (int k : asked) {
                     x.valueDim(node, k);
                 }
             }
         });
-        Unchanged.everywhere(CHECK, "valueAt", x -> {
+        Unchanged.byAsking(CHECK, "valueAt", x -> {
             for (int node : asked) {
                 for (int idx : asked) {
                     x.valueAt(node, idx);
                 }
             }
         });
+        // the answers stay when they are asked again and again
+        Program p = new Program(3).input(2, 3).transpose(0).input(0, 0).reshape(2, 2, 0).run();
+        for (int round = 0; round < 3; round++) {
+            CHECK.shape(p.x, 0, 2, 3);
+            CHECK.shape(p.x, 1, 3, 2);
+            CHECK.shape(p.x, 2);
+            CHECK.elements(p.x, 0, 1, 2, 3, 4, 5, 6);
+            CHECK.elements(p.x, 1, 1, 4, 2, 5, 3, 6);
+            CHECK.elements(p.x, 2, 1);
+            CHECK.due("trapNode()", p.x.trapNode(), 3);
+        }
     }
 
     public static void main(String[] args) {

@@ -229,13 +229,18 @@ public final class BoundaryKindsTest {
         CHECK.due("behind the last", p.valueAt(2, rows * columns), 0);
     }
 
-    private static void sameOperandTwice() {
+    private static void results() {
         CHECK.sentence("The result is a + b for K_ADD and a * b for K_MUL.");
-        Program p = new Program(2).input(2, 0).add(0, 0).mul(0, 0).mul(1, 2).data(0, 0, -3);
+        // zeros, ones and signs on either side, and the same operand twice
+        Program p = new Program(6).input(6, 0).input(6, 0).add(0, 1).mul(0, 1).add(1, 0).mul(1, 0)
+                .add(0, 0).mul(0, 0).data(0, 0, 5, 0, -3, 1, -2).data(1, 4, 0, 0, 7, -1, -6);
         runs(p);
-        CHECK.elements(p.x, 1, 0, -6);
-        CHECK.elements(p.x, 2, 0, 9);
-        CHECK.elements(p.x, 3, 0, -54);
+        CHECK.elements(p.x, 2, 4, 5, 0, 4, 0, -8);
+        CHECK.elements(p.x, 3, 0, 0, 0, -21, -1, 12);
+        CHECK.elements(p.x, 4, 4, 5, 0, 4, 0, -8);
+        CHECK.elements(p.x, 5, 0, 0, 0, -21, -1, 12);
+        CHECK.elements(p.x, 6, 0, 10, 0, -6, 2, -4);
+        CHECK.elements(p.x, 7, 0, 25, 0, 9, 1, 4);
     }
 
     // ---- K_MATMUL ----
@@ -445,7 +450,7 @@ public final class BoundaryKindsTest {
         missingPlacesCountAsOne();
         eachPlace();
         coordinateZero();
-        sameOperandTwice();
+        results();
         matmulTrapsIff();
         matmulElements();
         transposeOfRankTwo();

@@ -313,15 +313,18 @@ public final class BoundaryTermsTest {
 
     private static void elementCount() {
         CHECK.sentence("The element count is the product of the dims, and 1 for rank 0.");
-        for (int r = 0; r <= 6; r++) {
-            for (int c = 0; c <= 6; c++) {
-                if (r != 0 || c == 0) {
-                    int count = (r == 0 ? 1 : r) * (c == 0 ? 1 : c);
-                    Program p = new Program(6).input(r, c).run();
-                    for (int i = -1; i <= 37; i++) {
-                        CHECK.due("(" + r + ", " + c + "): valueAt(0, " + i + ")",
-                                p.x.valueAt(0, i), i < count ? i + 1 : 0);
-                    }
+        Program p = new Program(6).input(-1, -2).input(-2, 0).input(0, 0);
+        // from the largest to the smallest, so that an index too many would show an old element
+        for (int r = 6; r >= 1; r--) {
+            for (int c = 6; c >= 1; c--) {
+                p.bind(r, c, 1).run();
+                for (int i = -1; i <= 37; i++) {
+                    CHECK.due("(" + r + ", " + c + "): valueAt(0, " + i + ")",
+                            p.x.valueAt(0, i), i < r * c ? i + 1 : 0);
+                    CHECK.due("(" + c + "): valueAt(1, " + i + ")",
+                            p.x.valueAt(1, i), i < c ? i + 1 : 0);
+                    CHECK.due("rank 0: valueAt(2, " + i + ")",
+                            p.x.valueAt(2, i), i < 1 ? i + 1 : 0);
                 }
             }
         }

@@ -3,6 +3,7 @@ final class Check {
     private final String name;
     private String sentence = "";
     private int askedForSentence = 0;
+    private int wrongForSentence = 0;
     private int asked = 0;
     private int wrong = 0;
 
@@ -15,6 +16,7 @@ final class Check {
         endSentence();
         sentence = words;
         askedForSentence = 0;
+        wrongForSentence = 0;
     }
 
     private void endSentence() {
@@ -29,7 +31,9 @@ final class Check {
         askedForSentence++;
         if (got != want) {
             wrong++;
-            if (wrong <= 50) {
+            wrongForSentence++;
+            // so few that the sentences after a broken one are seen as well
+            if (wrongForSentence <= (sentence.isEmpty() ? 50 : 5)) {
                 String of = sentence.isEmpty() ? "" : "\"" + sentence + "\": ";
                 System.out.println(name + ": " + of + call + " answered " + got
                         + ", due is " + want);

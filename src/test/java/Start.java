@@ -3,17 +3,28 @@
  * with and without an admissible instantiation. Each make() gives a new object in the same state.
  */
 enum Start {
-    EMPTY(0), EMPTY_RUN(0),
-    SOME(10), SOME_RUN(10), SOME_TRAPPED(10),
-    FULL(16), FULL_RUN(16), FULL_TRAPPED(16),
-    HOPELESS(4), HOPELESS_TRAPPED(4);
+    EMPTY(0, ShapeInference.RUN_NONE, -1),
+    EMPTY_RUN(0, ShapeInference.RUN_OK, -1),
+    SOME(10, ShapeInference.RUN_NONE, -1),
+    SOME_RUN(10, ShapeInference.RUN_OK, -1),
+    SOME_BEFORE_TRAP(10, ShapeInference.RUN_NONE, -1),
+    SOME_TRAPPED(10, ShapeInference.RUN_TRAP, 2),
+    FULL(16, ShapeInference.RUN_NONE, -1),
+    FULL_RUN(16, ShapeInference.RUN_OK, -1),
+    FULL_TRAPPED(16, ShapeInference.RUN_TRAP, 2),
+    HOPELESS(4, ShapeInference.RUN_NONE, -1),
+    HOPELESS_TRAPPED(4, ShapeInference.RUN_TRAP, 3);
 
     static final int D = 6;
 
     final int count;
+    final int runState;
+    final int trapNode;
 
-    Start(int count) {
+    Start(int count, int runState, int trapNode) {
         this.count = count;
+        this.runState = runState;
+        this.trapNode = trapNode;
     }
 
     boolean full() {
@@ -31,6 +42,7 @@ enum Start {
             case EMPTY_RUN: return new Program(D).run().x;
             case SOME: return some().x;
             case SOME_RUN: return some().run().x;
+            case SOME_BEFORE_TRAP: return some().bind(2, 3, 2).x;
             case SOME_TRAPPED: return some().bind(2, 3, 2).run().x;
             case FULL: return all().x;
             case FULL_RUN: return all().run().x;
@@ -51,11 +63,12 @@ enum Start {
     }
 
     private static Program all() {
-        return some().input(-2, 0).sum(1, 0).transpose(9).matmul(9, 12).mul(3, 3).input(2, 3);
+        return some().input(-2, 0).sum(1, 0).transpose(9).matmul(9, 12).mul(3, 3).input(2, 3)
+                .data(10, 21, 22, 23, 24, 25, 26).data(15, 31, 32, 33, 34, 35, 36);
     }
 
     private static Program hopeless() {
         return new Program(D).input(-1, 0).input(2, 0).input(3, 0).add(1, 2)
-                .data(0, 4, 5, 6).bind(3, 2, 1);
+                .data(0, 4, 5, 6).bind(3, 2, 4);
     }
 }
