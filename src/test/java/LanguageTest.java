@@ -1,5 +1,5 @@
 import com.sun.source.tree.CompilationUnitTree;
-import com.sun.source.tree.IdentifierTree;
+import com.sun.source.tree.MemberSelectTree;
 import com.sun.source.tree.MethodInvocationTree;
 import com.sun.source.tree.MethodTree;
 import com.sun.source.tree.NewArrayTree;
@@ -34,14 +34,19 @@ public final class LanguageTest extends TreeScanner<Void, Void> {
             Tree.Kind.SYNCHRONIZED, Tree.Kind.ASSERT, Tree.Kind.INSTANCE_OF,
             Tree.Kind.LAMBDA_EXPRESSION, Tree.Kind.MEMBER_REFERENCE, Tree.Kind.NEW_CLASS,
             Tree.Kind.NULL_LITERAL, Tree.Kind.STRING_LITERAL, Tree.Kind.FLOAT_LITERAL,
-            Tree.Kind.DOUBLE_LITERAL, Tree.Kind.ENHANCED_FOR_LOOP, Tree.Kind.PARAMETERIZED_TYPE,
-            Tree.Kind.MEMBER_SELECT);
+            Tree.Kind.DOUBLE_LITERAL, Tree.Kind.PARAMETERIZED_TYPE);
+
+    private static final Set<Tree.Kind> LOOP_OR_CONDITION = EnumSet.of(
+            Tree.Kind.FOR_LOOP, Tree.Kind.ENHANCED_FOR_LOOP, Tree.Kind.WHILE_LOOP,
+            Tree.Kind.DO_WHILE_LOOP, Tree.Kind.IF, Tree.Kind.SWITCH,
+            Tree.Kind.CONDITIONAL_EXPRESSION);
 
     private final CompilationUnitTree unit;
     private final SourcePositions positions;
     private final Map<String, Set<String>> calls = new TreeMap<>();
     private String method = "";
     private int insideArguments = 0;
+    private int insideLoopsOrConditions = 0;
 
     private LanguageTest(CompilationUnitTree unit, SourcePositions positions) {
         this.unit = unit;
@@ -58,17 +63,22 @@ public final class LanguageTest extends TreeScanner<Void, Void> {
 
     @Override
     public Void scan(Tree tree, Void nothing) {
-        if (tree != null) {
-            CHECK.due(where(tree) + tree.getKind(), FORBIDDEN.contains(tree.getKind()), false);
+        if (tree == null) {
+            return null;
         }
-        return super.scan(tree, nothing);
+        CHECK.due(where(tree) + tree.getKind(), FORBIDDEN.contains(tree.getKind()), false);
+        int inside = LOOP_OR_CONDITION.contains(tree.getKind()) ? 1 : 0;
+        insideLoopsOrConditions += inside;
+        super.scan(tree, nothing);
+        insideLoopsOrConditions -= inside;
+        return null;
     }
 
     @Override
     public Void visitMethod(MethodTree tree, Void nothing) {
         method = tree.getName().toString();
-        CHECK.due("a second method " + method, calls.containsKey(method), false);
-        calls.put(method, new TreeSet<>());
+        // methods of one name are followed as one
+        calls.putIfAbsent(method, new TreeSet<>());
         long first = line(positions.getStartPosition(unit, tree));
         long last = line(positions.getEndPosition(unit, tree));
         CHECK.due(method + " is short", last - first < LONGEST_METHOD, true);
@@ -77,19 +87,22 @@ public final class LanguageTest extends TreeScanner<Void, Void> {
         return null;
     }
 
+    private static String called(Tree select) {
+        return select instanceof MemberSelectTree member ? member.getIdentifier().toString()
+                : select.toString();
+    }
+
     @Override
     public Void visitMethodInvocation(MethodInvocationTree tree, Void nothing) {
+        String name = called(tree.getMethodSelect());
         // the empty constructor call that javac puts in is not in the source
-        if (!(tree.getMethodSelect() instanceof IdentifierTree name)) {
-            CHECK.due(where(tree) + "a call by a name alone", 0, 1);
-            return null;
-        }
-        if (name.getName().contentEquals("super")) {
+        if (name.equals("super")) {
             return null;
         }
         CHECK.due(where(tree) + "a call in the arguments of a call", insideArguments, 0);
         CHECK.due(where(tree) + "a call outside of a method", method.isEmpty(), false);
-        calls.get(method).add(name.getName().toString());
+        calls.getOrDefault(method, new TreeSet<>()).add(name);
+        scan(tree.getMethodSelect(), nothing);
         insideArguments++;
         scan(tree.getArguments(), nothing);
         insideArguments--;
@@ -97,8 +110,20 @@ public final class LanguageTest extends TreeScanner<Void, Void> {
     }
 
     @Override
+    public Void visitMemberSelect(MemberSelectTree tree, Void nothing) {
+        String of = tree.getExpression().toString();
+        boolean own = of.equals("this") || of.equals("ShapeInference");
+        boolean length = tree.getIdentifier().contentEquals("length");
+        CHECK.due(where(tree) + tree + " is of the class or a length", own || length, true);
+        return super.visitMemberSelect(tree, nothing);
+    }
+
+    @Override
     public Void visitNewArray(NewArrayTree tree, Void nothing) {
-        CHECK.due(where(tree) + "an array made in " + method, method.isEmpty(), true);
+        boolean atTheStart = method.isEmpty() || method.equals("<init>");
+        CHECK.due(where(tree) + "an array made in " + method, atTheStart, true);
+        CHECK.due(where(tree) + "an array in a loop or behind a condition",
+                insideLoopsOrConditions, 0);
         CHECK.due(where(tree) + "one dimension with a length", tree.getDimensions().size(), 1);
         return super.visitNewArray(tree, nothing);
     }
